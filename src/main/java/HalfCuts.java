@@ -387,7 +387,7 @@ public final class HalfCuts {
             }
         }
         // The lower number is a power of two, so 2 is all that both can be divided by.
-        while (lower > 1 && upper % 2 == 0) {
+        for (int step = 0; step < MOST_CELLS && lower > 1 && upper % 2 == 0; step++) {
             upper /= 2;
             lower /= 2;
         }
@@ -905,12 +905,12 @@ public final class HalfCuts {
             if (!takes('h') || !takes(';') || !readsCell(into)) {
                 return false;
             }
-            while (into.cells < MOST_CELLS && takes(';')) {
+            for (int c = 1; c < MOST_CELLS && takes(';'); c++) {
                 if (!readsCell(into)) {
                     return false;
                 }
             }
-            while (into.nets < MOST_NETS && takes(',')) {
+            for (int k = 0; k < MOST_NETS && takes(','); k++) {
                 if (!readsNet(into)) {
                     return false;
                 }

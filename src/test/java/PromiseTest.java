@@ -3,6 +3,7 @@ public final class PromiseTest {
     private static final int LEAST = Integer.MIN_VALUE, MOST = Integer.MAX_VALUE;
     private static final int NULL = -11, CAST = -12, INDEX = -13, SIZE = -14, STORE = -15;
     private static final int HALF = 1056964608, ONE = 1065353216;
+    private static final String SPOILT = "h;d9R;b8L;p7R;d6R;b5L;d4r;p3L,0123,45,23,01,0156,6";
     /** Weights 3, 3, 8 and 5; the last cell is fixed on the right. */
     private static final String FOUR = "h;p3l;b2l;d4r;p5R,01,012,23,03";
 
@@ -36,7 +37,10 @@ public final class PromiseTest {
     private static HalfCuts made(String text) {
         HalfCuts x = new HalfCuts();
         due(2, text, x.circuit(0, 0, 0, 0), NULL);
+        // A text that is not taken, unlike the one that is, is read ahead of it and behind it.
+        due(2, SPOILT, read(x, SPOILT), -100 - SPOILT.length());
         due(2, text, read(x, text), text.chars().filter(code -> code == ';').count());
+        due(2, SPOILT, read(x, SPOILT), -100 - SPOILT.length());
         return x;
     }
 
@@ -133,6 +137,13 @@ public final class PromiseTest {
         due(2, "a code that is h only when cut", x.circuit(0, 2, 0, 5), -100);
         lay(x, 0, 0, 104 + 256, 59, 112, 49, 108);
         due(2, "a code that is cut to h", x.circuit(0, 0, 0, 5), 1);
+        due(2, "codes behind the n-th are not read", x.circuit(0, 0, 0, 3), -103);
+        due(2, "codes behind the n-th are not read", x.circuit(0, 0, 0, 4), -104);
+        lay(x, 0, 0, 'h', ';', 'p', '1', 'l', ';', 'b', '2', 'r', ',', '0', '1', '9');
+        due(2, "codes behind the n-th are not read", x.circuit(0, 0, 0, 12), 2);
+        due(2, "codes behind the n-th are not read", x.circuit(0, 0, 0, 11), -111);
+        due(2, "codes behind the n-th are not read", x.circuit(0, 0, 0, 10), -110);
+        due(2, "the last code is read", x.circuit(0, 0, 0, 13), -112);
     }
 
     private static void circuitRefusals() {
@@ -273,6 +284,12 @@ public final class PromiseTest {
         due(9, "pass", tied.pass(1), 3);
         due(9, "right then", tied.ofSide(1, 0), 0b1111);
 
+        HalfCuts like = made("h;p2l;b1l;d1l;b3R,03,13,23");
+        for (int manner = 0; manner < 3; manner++) {
+            for (int k = 0; k < 3; k++) {
+                due(10, "of several the least number", like.tries(manner, 10 + k), k);
+            }
+        }
         HalfCuts by = made("h;p9l;p2l;p1R,02,02,12");
         due(10, "greatest gain", by.tries(0, 10), 0);
         due(10, "greatest gain by weight", by.tries(2, 10), 1);
@@ -343,6 +360,9 @@ public final class PromiseTest {
         due(12, "ahead of it", x.day(1, 2, 0, 1, 1), -9);
         lay(x, 1, 2, 7, 13, 0, 0, 7, 14, 0, 3);
         due(12, "bulk of a fixed one can be, of none can't", x.day(1, 2, 0, 4, 1), 2);
+        lay(x, 1, 2, 9, 10, 8, 11);
+        due(12, "weights of the left by new bulks", x.day(1, 2, 0, 2, 3), 18);
+        due(12, "share of the left by new bulks", x.day(1, 2, 0, 2, 4), bits(18, 31));
         lay(x, 1, 2, 0, 4, 0, 7);
         due(12, "no such cell", x.day(1, 2, 0, 1, 1), 0);
         due(12, "outside behind a first wrong", x.day(1, 2, 0, 2, 1), -2);
@@ -406,6 +426,8 @@ public final class PromiseTest {
         due(13, "of several the least", made("h;p1l;p1r").least(1), 0);
         due(13, "fixed ones stay", made("h;p1L;p1R,01").least(0), 1);
         due(13, "fixed ones stay", made("h;p1L;p1R,01").least(1), 2);
+        due(13, "all six", made("h;p1L;p1R,01,01,01,01,01,01").least(0), 6);
+        due(13, "all six", made("h;p1L;p1R,01,01,01,01,01,01").least(1), 2);
     }
 
     private static void apartAndClosest() {
@@ -684,31 +706,55 @@ public final class PromiseTest {
         due(33, "itself too", x.fault(), 4);
         due(33, "rack", x.rack(0, 1), 1);
         due(33, "rack came to none", x.fault(), 0);
-        String[] clearing = {"circuit", "day", "rack", "stow", "sheet", "put", "cell", "copy", "as"};
-        for (String call : clearing) {
+        for (int call = 0; call < CLEARING; call++) {
             due(33, "index", x.stowed(1), INDEX);
             due(33, "index", x.fault(), 3);
             clear(x, call);
-            due(33, call + " was refused", x.fault(), 0);
+            due(33, "behind call " + call + " that came to none", x.fault(), 0);
         }
         due(33, "store", x.rack(2, 1), 1);
         due(33, "store", x.stow(0, 0), STORE);
         due(33, "store", x.fault(), 5);
         due(33, "stowed came to none", x.stowed(0), -9);
         due(33, "stowed came to none", x.fault(), 0);
+        HalfCuts none = new HalfCuts();
+        due(33, "null", none.stowed(0), NULL);
+        due(33, "rack without a circuit", none.rack(0, -1), -3);
+        due(33, "rack was refused", none.fault(), 0);
+        due(33, "sheet", none.sheet(0, 0, 2), 1);
+        due(33, "null", none.stowed(0), NULL);
+        due(33, "day without a circuit", none.day(0, 0, 0, 1, 0), -3);
+        due(33, "day was refused", none.fault(), 0);
     }
 
-    private static void clear(HalfCuts x, String call) {
+    private static final int CLEARING = 23;
+
+    /** Calls that name FAULTS, and are refused or come to none; sheet 0 has two shorts, the rack one place. */
+    private static void clear(HalfCuts x, int call) {
         switch (call) {
-            case "circuit": due(33, call, x.circuit(0, 9, 0, 0), -2); break;
-            case "day": due(33, call, x.day(0, 0, 0, -1, 0), -2); break;
-            case "rack": due(33, call, x.rack(9, 0), -2); break;
-            case "stow": due(33, call, x.stow(0, 9), -1); break;
-            case "sheet": due(33, call, x.sheet(9, 0, 0), -1); break;
-            case "put": due(33, call, x.put(9, 0, 0), -1); break;
-            case "cell": due(33, call, x.cell(9, 0, 0), HalfCuts.LOST); break;
-            case "copy": due(33, call, x.copy(9, 0, 0, 0, 0), -1); break;
-            default: due(33, call, x.as(9, 0), -1); break;
+            case 0: due(33, "circuit", x.circuit(4, 0, 0, 0), -1); break;
+            case 1: due(33, "circuit", x.circuit(0, 9, 0, 0), -2); break;
+            case 2: due(33, "sheet", x.sheet(4, 0, 0), -1); break;
+            case 3: due(33, "sheet", x.sheet(0, 3, 0), -2); break;
+            case 4: due(33, "sheet", x.sheet(0, 1, 2), 1); break;
+            case 5: due(33, "circuit", x.circuit(0, 1, 0, 2), -100); break;
+            case 6: due(33, "day", x.day(4, 0, 0, 0, 0), -1); break;
+            case 7: due(33, "day", x.day(0, 0, 0, -1, 0), -2); break;
+            case 8: due(33, "day", x.day(0, 1, 0, 1, 1), -9); break;
+            case 9: due(33, "put", x.put(4, 0, 0), -1); break;
+            case 10: due(33, "put", x.put(0, 0, 5), 1); break;
+            case 11: due(33, "day", x.day(0, 1, 0, 1, 1), -2); break;
+            case 12: due(33, "rack", x.rack(9, 0), -2); break;
+            case 13: due(33, "rack", x.rack(0, 1), 1); break;
+            case 14: due(33, "stow", x.stow(0, 9), -1); break;
+            case 15: due(33, "stow", x.stow(0, 0), 1); break;
+            case 16: due(33, "cell", x.cell(4, 0, 0), HalfCuts.LOST); break;
+            case 17: due(33, "cell", x.cell(0, 0, 1), 5); break;
+            case 18: due(33, "copy", x.copy(4, 0, 0, 0, 0), -1); break;
+            case 19: due(33, "copy", x.copy(0, 0, 0, 1, 1), 1); break;
+            case 20: due(33, "as", x.as(0, 9), -2); break;
+            case 21: due(33, "as", x.as(9, 0), -1); break;
+            default: due(33, "as", x.as(0, 0), 1); break;
         }
     }
 
