@@ -144,6 +144,10 @@ final class HeavyEdges extends Edge {
         oddsAre(x, 1, 3, 4);
         oddsAre(x, 2, 1, 1);
         oddsAre(x, 6, 1, 1);
+        HalfCuts fixed = madeWithin("h;p1l;p1l;p1R,01,12", HALF);
+        oddsAre(fixed, 0, 1, 4);
+        oddsAre(fixed, 1, 3, 4);
+        oddsAre(fixed, 2, 1, 1);
         oddsAre(made("h;p1L;p1R,01,01,01,01,01,01"), 5, 0, 1);
         oddsAre(made("h;p1L;p1R,01,01,01,01,01,01"), 6, 1, 1);
     }

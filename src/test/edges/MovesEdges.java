@@ -101,6 +101,9 @@ final class MovesEdges extends Edge {
         order("h;p9r;p1r;p9R,02", 2, 1, 0);
         order("h;p1l;p9l;p1R,12", 2, 1, 0);
         order("h;b3l;d1l;p9R,02,12", 2, 1, 0);
+        order("h;p9l;p8l;p1R,02,12", 2, 1, 0);
+        order("h;p9l;d8l;p1R,02,12,12", 2, 1, 0);
+        order("h;d8l;p5l;p1R,02,02,02,12", 2, 1, 0);
     }
 
     @Says("of several always the least number.")
@@ -111,6 +114,9 @@ final class MovesEdges extends Edge {
         }
         order("h;p4l;p2l;p1R,02,02,12", 2, 0, 1);
         order("h;p2l;p4l;p1R,12,12,02", 2, 0, 1);
+        order("h;p9l;d9l;p1R,02,12,12", 2, 0, 1);
+        order("h;d9l;p9l;p1R,02,02,12", 2, 0, 1);
+        order("h;d9l;p6l;p1R,02,02,02,12", 2, 0, 1);
         order("h;p9l;p1l;p5l", 2, 0, 1, 2);
     }
 
