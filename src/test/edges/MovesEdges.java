@@ -309,7 +309,7 @@ final class MovesEdges extends Edge {
             due("right", x.ofSide(1, 0), 0b111);
         }
         due("none", made("h;p1l").pass(2), 0);
-        due("seven", made("h;p1l;p1r;p1r;p1r;p1r;p1r;p1r,01,02,03,04,05,06").pass(0), 1);
+        due("one of seven", made("h;p1l;p1r;p1r;p1r;p1r;p1r;p1r,01,02,03,04,05,06").pass(0), 1);
     }
 
     @Says("STATE: there is no CIRCUIT;")

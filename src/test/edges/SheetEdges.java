@@ -584,7 +584,7 @@ final class SheetEdges extends Edge {
         changesFaultTo0("circuit", x -> x.circuit(3, 2, 0, 30), 4);
         changesFaultTo0("a text that is not taken", x -> x.circuit(3, 2, 0, 1), -101);
         changesFaultTo0("day", x -> x.day(1, 2, 0, 3, 1), NONE);
-        changesFaultTo0("a day with a wrong one", x -> x.day(0, 0, 3, 0, 0), 2);
+        changesFaultTo0("a day of no pairs", x -> x.day(0, 0, 3, 0, 0), 2);
         changesFaultTo0("rack", x -> x.rack(0, 0), 0);
         changesFaultTo0("stow", x -> x.stow(0, 2), 1);
         changesFaultTo0("stowed", x -> x.stowed(1), 2);
