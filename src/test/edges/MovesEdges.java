@@ -417,6 +417,28 @@ final class MovesEdges extends Edge {
         due("right then", z.ofSide(1, 0), 0b1100);
     }
 
+    /** Found by a search: in 420 million circuits by chance none took more than five passes. */
+    @Says("one behind another, till one leaves as many NETS CUT as there were:")
+    static void p11_five_passes_by_each_manner() {
+        fivePasses("h;p1r;b2r;b2l;d9r;b5r;d6L;b2l,534,364,2051,4561,45,365", 1063032961, 0);
+        fivePasses("h;b7r;p4l;b4L;p2r;b9r;d2r,2145,102,5413,231,51,5123", 1065315232, 1);
+        fivePasses("h;p6r;p4l;p7l;d7R;p9r;d7r,014,0234,24,4125,231,3241", 1063654345, 2);
+    }
+
+    private static void fivePasses(String text, int bound, int manner) {
+        HalfCuts passed = madeWithin(text, bound);
+        int cut = passed.many(2);
+        for (int k = 1; k <= 5; k++) {
+            passed.pass(manner);
+            due("pass " + k + " leaves fewer", passed.many(2) < cut ? 1 : 0, k < 5 ? 1 : 0);
+            cut = passed.many(2);
+        }
+        HalfCuts x = madeWithin(text, bound);
+        due("passes", x.settle(manner), 5);
+        due("CUT then", x.many(2), cut);
+        due("right then", x.ofSide(1, 0), passed.ofSide(1, 0));
+    }
+
     /** By the bound only one of cells 0 and 2 can go to the right. */
     private static HalfCuts madeTied() {
         return madeWithin("h;p1l;p8L;p2l;p7R,03,23", HALF);
