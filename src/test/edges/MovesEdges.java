@@ -417,24 +417,32 @@ final class MovesEdges extends Edge {
         due("right then", z.ofSide(1, 0), 0b1100);
     }
 
-    /** Found by a search: in 420 million circuits by chance none took more than five passes. */
+    /** Found by a search. */
     @Says("one behind another, till one leaves as many NETS CUT as there were:")
     static void p11_five_passes_by_each_manner() {
-        fivePasses("h;p1r;b2r;b2l;d9r;b5r;d6L;b2l,534,364,2051,4561,45,365", 1063032961, 0);
-        fivePasses("h;b7r;p4l;b4L;p2r;b9r;d2r,2145,102,5413,231,51,5123", 1065315232, 1);
-        fivePasses("h;p6r;p4l;p7l;d7R;p9r;d7r,014,0234,24,4125,231,3241", 1063654345, 2);
+        settlesIn(5, "h;p1r;b2r;b2l;d9r;b5r;d6L;b2l,534,364,2051,4561,45,365", 1063032961, 0);
+        settlesIn(5, "h;b7r;p4l;b4L;p2r;b9r;d2r,2145,102,5413,231,51,5123", 1065315232, 1);
+        settlesIn(5, "h;p6r;p4l;p7l;d7R;p9r;d7r,014,0234,24,4125,231,3241", 1063654345, 2);
     }
 
-    private static void fivePasses(String text, int bound, int manner) {
+    /** The most that can be: all six NETS are CUT, and each PASS but the last leaves one fewer. */
+    @Says("till one leaves as many NETS CUT as there were:")
+    static void p11_seven_passes_by_each_manner() {
+        settlesIn(7, "h;d5l;b3L;p9l;d9r;d6r;b8l;p6l,046,0245,245,245,24,13", bits(46, 68), 0);
+        settlesIn(7, "h;p5l;p5L;p8r;p1r;p5l;p7l;p3r,056,12,56,056,456,0356", bits(22, 34), 1);
+        settlesIn(7, "h;b9l;b5r;p1L;d2l;d1r;p2r;p3l,01,0156,056,0156,0124,12", bits(24, 28), 2);
+    }
+
+    private static void settlesIn(int passes, String text, int bound, int manner) {
         HalfCuts passed = madeWithin(text, bound);
         int cut = passed.many(2);
-        for (int k = 1; k <= 5; k++) {
+        for (int k = 1; k <= passes; k++) {
             passed.pass(manner);
-            due("pass " + k + " leaves fewer", passed.many(2) < cut ? 1 : 0, k < 5 ? 1 : 0);
+            due("pass " + k + " leaves fewer", passed.many(2) < cut ? 1 : 0, k < passes ? 1 : 0);
             cut = passed.many(2);
         }
         HalfCuts x = madeWithin(text, bound);
-        due("passes", x.settle(manner), 5);
+        due("passes", x.settle(manner), passes);
         due("CUT then", x.many(2), cut);
         due("right then", x.ofSide(1, 0), passed.ofSide(1, 0));
     }
