@@ -7,24 +7,14 @@ import java.lang.reflect.Modifier;
 import java.nio.file.Files;
 import java.nio.file.Path;
 import java.util.Arrays;
-import java.util.List;
 import java.util.Random;
 import java.util.Set;
 import java.util.TreeSet;
 import java.util.regex.Matcher;
 import java.util.regex.Pattern;
 
-/** The public face, rules of the language that can be seen from outside, and that no call throws. */
+/** The public face as the document has it, rules of the language that can be seen, and that no call throws. */
 public final class FaceTest {
-    private static final String[] FACE = {
-        "int circuit(int, int, int, int)", "int ofCell(int, int)", "int ofNet(int, int)", "int ofSide(int, int)",
-        "int bulk(int, int)", "int bound(int)", "int move(int)", "int pass(int)", "int tries(int, int)",
-        "int settle(int)", "int day(int, int, int, int, int)", "int least(int)", "int apart(int, int)",
-        "int closest(int)", "int rack(int, int)", "int stow(int, int)", "int stowed(int)", "int reading(int, int)",
-        "int back(int)", "int kinds(int)", "int bulks(int)", "long odds(int, int)", "int sheet(int, int, int)",
-        "int lose(int)", "int put(int, int, int)", "long cell(int, int, int)", "int copy(int, int, int, int, int)",
-        "int tell(int)", "int probe(int)", "int as(int, int)", "int trace()", "int fault()", "int many(int)",
-    };
     private static int wrong = 0;
 
     private static void check(boolean good, String what) {
@@ -39,7 +29,28 @@ public final class FaceTest {
         return m.getReturnType().getName() + " " + m.getName() + "(" + types.substring(1, types.length() - 1) + ")";
     }
 
-    private static void face() throws IllegalAccessException {
+    /** The rows of the face in the document, told as the class's own members are below. */
+    private static Set<String> rowsOfFace(String document, String pattern, String told) {
+        int from = document.indexOf("## The public face");
+        int to = document.indexOf("## Terms");
+        check(from >= 0 && to > from, "the document has a face");
+        Set<String> rows = new TreeSet<>();
+        Matcher m = Pattern.compile(pattern).matcher(document.substring(Math.max(0, from), Math.max(0, to)));
+        while (m.find()) {
+            rows.add(m.group().replaceAll(pattern, told));
+        }
+        return rows;
+    }
+
+    private static Set<String> methodsOfFace(String document) {
+        Set<String> methods = new TreeSet<>();
+        for (String row : rowsOfFace(document, "public (int|long) (\\w+)\\(([^)]*)\\);", "$1 $2($3)")) {
+            methods.add(row.replaceAll("int \\w+([,)])", "int$1"));
+        }
+        return methods;
+    }
+
+    private static void face(String document) throws IllegalAccessException {
         Class<?> type = HalfCuts.class;
         check(Modifier.isPublic(type.getModifiers()) && Modifier.isFinal(type.getModifiers()), "public and final");
         Set<String> methods = new TreeSet<>();
@@ -51,7 +62,7 @@ public final class FaceTest {
                 names.add(m.getName());
             }
         }
-        check(methods.equals(new TreeSet<>(Arrays.asList(FACE))), "methods are " + methods);
+        check(methods.size() == 33 && methods.equals(methodsOfFace(document)), "methods are " + methods);
         for (Class<?> inner : type.getDeclaredClasses()) {
             check(Modifier.isStatic(inner.getModifiers()), "static " + inner);
             check(inner.getDeclaredFields().length <= 20, "fields of " + inner);
@@ -66,21 +77,22 @@ public final class FaceTest {
         Constructor<?>[] constructors = type.getDeclaredConstructors();
         check(constructors.length == 1 && Modifier.isPublic(constructors[0].getModifiers())
             && constructors[0].getParameterCount() == 0, "one public constructor");
-        constants(type);
+        constants(type, document);
     }
 
-    private static void constants(Class<?> type) throws IllegalAccessException {
-        List<String> want = List.of("UNKNOWN=-1", "OUTSIDE=-2", "STATE=-3", "FULL=-4", "NONE=-9", "LOST=" + Long.MIN_VALUE);
+    private static void constants(Class<?> type, String document) throws IllegalAccessException {
+        Set<String> want = rowsOfFace(document, "([A-Z]+) = (-\\d+|Long\\.MIN_VALUE)", "$1=$2");
         Set<String> found = new TreeSet<>();
         int fields = 0;
         for (Field f : type.getDeclaredFields()) {
             if (!Modifier.isPrivate(f.getModifiers())) {
-                found.add(f.getName() + "=" + f.get(null));
+                found.add(f.getName() + "=" + (f.getType() == long.class && f.getLong(null) == Long.MIN_VALUE
+                    ? "Long.MIN_VALUE" : f.get(null)));
             }
             check(!Modifier.isStatic(f.getModifiers()) || Modifier.isFinal(f.getModifiers()), "static state: " + f);
             fields += Modifier.isStatic(f.getModifiers()) ? 0 : 1;
         }
-        check(found.equals(new TreeSet<>(want)), "constants are " + found);
+        check(found.size() == 6 && found.equals(want), "constants are " + found);
         check(fields <= 20, "fields of the class");
     }
 
@@ -98,6 +110,7 @@ public final class FaceTest {
             check(!m.find(), "the source has " + word);
         }
         methodsAreShort(whole.split("\n"));
+        noCallMakesObjects(code.split("\n"));
     }
 
     private static void methodsAreShort(String[] lines) {
@@ -109,6 +122,16 @@ public final class FaceTest {
             if (begun >= 0 && lines[k].matches("( {4}| {8})\\}") && indent(lines[k]) == indent(lines[begun])) {
                 check(k - begun < 60, "a long method at line " + (begun + 1));
                 begun = -1;
+            }
+        }
+    }
+
+    /** All calls of a run live in one room, so what is made is made once: by a field's first value, or in the constructor. */
+    private static void noCallMakesObjects(String[] rows) {
+        for (String row : rows) {
+            if (row.matches(".*\\bnew\\b.*")) {
+                check(row.matches(" +(private )?final [\\w\\[\\]]+ \\w+ = new .*;") || row.trim().equals("sheets[k] = new Sheet();"),
+                    "made in a call: " + row.trim());
             }
         }
     }
@@ -153,7 +176,7 @@ public final class FaceTest {
     }
 
     public static void main(String[] args) throws IOException, IllegalAccessException {
-        face();
+        face(Files.readString(Path.of("../shared/DOC.md")));
         source();
         neverThrows();
         System.out.println("FaceTest: " + wrong + " wrong");
